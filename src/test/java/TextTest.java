@@ -7,6 +7,7 @@ public final class TextTest {
         soundTexts(check);
         misplaced(check);
         tooHigh(check);
+        cutByLength(check);
         twice(check);
         latestFault(check);
         check.end();
@@ -73,6 +74,12 @@ public final class TextTest {
         faulty(check, "shor 1;", 1, 0);
         faulty(check, "shorts 1;", 1, 0);
         faulty(check, "Short 1;", 1, 0);
+        faulty(check, "shortz 1;", 1, 0);
+        faulty(check, "ashort 1;", 1, 0);
+        faulty(check, "short{1;", 1, 5);
+        faulty(check, "short`1;", 1, 5);
+        faulty(check, "short 1:", 1, 7);
+        faulty(check, "short 1/;", 1, 7);
         faulty(check, ";", 1, 0);
         faulty(check, "7;", 1, 0);
         faulty(check, "1000;", 1, 0);
@@ -102,6 +109,7 @@ public final class TextTest {
     private static void tooHigh(Check check) {
         faulty(check, "short 1000;", 2, 6);
         faulty(check, "short 1000", 2, 6);
+        faulty(check, "short 9990;", 2, 6);
         faulty(check, "short 4294967296;", 2, 6);
         faulty(check, "short 42949672960000000000000000;", 2, 6);
         faulty(check, "fund 3 1;", 2, 5);
@@ -128,6 +136,18 @@ public final class TextTest {
         faulty(check, "fund 1 1; fund 1 1000;", 2, 17);
         faulty(check, "fund 1 1; fund 01 2;", 3, 10);
         faulty(check, "short 1; short 2; refuse 1000;", 3, 9);
+    }
+
+    private static void cutByLength(Check check) {
+        String whole = "short 12 ;  ";
+        int[] votes = {0, -1, -1, -1, -1, -1, -1, -1, -1, -1, 0, 0, 0};
+        int[] places = {-1, 0, 0, 0, 0, 5, 6, 7, 8, 9, -1, -1, -1};
+        for (int n = 0; n <= whole.length(); n++) {
+            HiringHall hall = new HiringHall();
+            Check.feed(hall, whole);
+            check.due("the first " + n + " bytes", hall.vote(n, 0), votes[n]);
+            check.due("the first " + n + " bytes, the place", hall.fault(1), places[n]);
+        }
     }
 
     private static void latestFault(Check check) {
