@@ -15,6 +15,8 @@ public final class ModelTest {
         {6, 6, 4, 2, 6, 1, 1, 1, 1, 1, 2, 1, 1, 1, 2, 3, 1, 1, 2},
         {1, 1, 1, 1, 1, 8, 20, 40, 12, 12, 2, 10, 8, 8, 1, 1, 4, 4, 1},
         {1, 2, 1, 1, 1, 2, 8, 30, 8, 8, 8, 6, 3, 3, 1, 1, 12, 12, 1},
+        // so many mornings that the last day comes
+        {1, 1, 1, 1, 2, 1, 4, 12, 4, 3, 28, 4, 3, 3, 4, 4, 3, 3, 2},
     };
     private static final String[] LINES = {"short 1", "short 2", "short 0", "short 30", "refuse 1", "refuse 2",
         "refuse 3", "answer 1", "answer 100", "answer 300", "permit 1", "permit 0", "name 1", "name 0",
@@ -103,6 +105,12 @@ public final class ModelTest {
         }
         if (kind == 2) {
             return random.nextInt();
+        }
+        if (kind == 3) {
+            return random.nextBoolean() ? Integer.MIN_VALUE : Integer.MAX_VALUE;
+        }
+        if (kind == 4) {
+            return most;
         }
         return random.nextInt(most + 1);
     }

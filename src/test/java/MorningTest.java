@@ -68,16 +68,16 @@ public final class MorningTest {
         hall.call(1, 2, 1, -1, 0);
         hall.call(2, 3, 1, -1, 0);
         check.due("morning of day 0", hall.morning(), 3);
-        checkList(check, hall, 0, 3);
+        check.list(hall, 0, 3);
         hall.morning();
-        checkList(check, hall, 0, 3);
+        check.list(hall, 0, 3);
         check.due("still on the job on its last day", hall.look(1, 2), 1);
         hall.morning();
-        checkList(check, hall, 0, 1, 3);
+        check.list(hall, 0, 1, 3);
         check.due("back from the short job", hall.look(1, 2), -1);
         check.due("still on the long one", hall.look(0, 2), 0);
         hall.morning();
-        checkList(check, hall, 0, 1, 3, 0, 2);
+        check.list(hall, 0, 1, 3, 0, 2);
         check.due("back from the long one", hall.look(0, 2), -1);
     }
 
@@ -90,7 +90,7 @@ public final class MorningTest {
         Check.mornings(hall, 2);
         Check.vote(hall, "short 1;", 2);
         hall.morning();
-        checkList(check, hall, 0, 1, 0);
+        check.list(hall, 0, 1, 0);
     }
 
     private static void comingBackAheadOfSigning(Check check) {
@@ -101,9 +101,9 @@ public final class MorningTest {
         hall.morning();
         hall.worker(1);
         hall.worker(1);
-        checkList(check, hall, 1, 1);
+        check.list(hall, 1, 1);
         hall.morning();
-        checkList(check, hall, 1, 1, 0, 2, 3);
+        check.list(hall, 1, 1, 0, 2, 3);
         check.due("signed on day 1", hall.look(3, 1), 1);
         check.due("not signed on day 0", hall.why(0, 2, 0), 0);
         check.due("not signed on day 0, the clock", hall.why(0, 2, 1), -1);
@@ -216,15 +216,15 @@ public final class MorningTest {
         hall.refuse(0, 1);
         check.due("nobody is sent", hall.morning(), 0);
         check.due("one refusal", hall.look(0, 3), 1);
-        checkList(check, hall, 0, 0, 1);
+        check.list(hall, 0, 0, 1);
         hall.call(0, 1, 1, -1, 0);
         hall.refuse(1, 0);
         hall.morning();
         check.due("with two it has none", hall.look(0, 3), 0);
-        checkList(check, hall, 0, 0);
+        check.list(hall, 0, 0);
         check.due("sent, it has none", hall.look(1, 3), 0);
         hall.morning();
-        checkList(check, hall, 0, 0, 1);
+        check.list(hall, 0, 0, 1);
     }
 
     private static void refusalsAboveTheRule(Check check) {
@@ -236,12 +236,12 @@ public final class MorningTest {
             hall.morning();
         }
         check.due("refuse is 0: they add up", hall.look(0, 3), 3);
-        checkList(check, hall, 0, 0, 1);
+        check.list(hall, 0, 0, 1);
         Check.vote(hall, "refuse 2;", 0);
         hall.refuse(hall.call(0, 1, 1, -1, 0), 0);
         hall.morning();
         check.due("more than as many", hall.look(0, 3), 0);
-        checkList(check, hall, 0, 1, 0);
+        check.list(hall, 0, 1, 0);
     }
 
     private static void refusalsForgotten(Check check) {
@@ -296,7 +296,7 @@ public final class MorningTest {
         check.due("2 is the first now and on a job", hall.why(1, 2, 0), 1);
         check.due("0 is next", hall.why(1, 0, 0), 5);
         check.due("1 is behind it", hall.why(1, 1, 0), 6);
-        checkList(check, hall, 0, 1);
+        check.list(hall, 0, 1);
     }
 
     private static void wantedAndNotComeTo(Check check) {
@@ -311,7 +311,7 @@ public final class MorningTest {
         check.due("the second of book 1", hall.why(0, 3, 0), 6);
         check.due("its clock", hall.why(0, 3, 1), -1);
         check.due("list(0, 0)", hall.list(0, 0), -1);
-        checkList(check, hall, 1, 3, 5, 7, 9, 11, 13, 15);
+        check.list(hall, 1, 3, 5, 7, 9, 11, 13, 15);
     }
 
     private static void onAJob(Check check) {
@@ -341,7 +341,7 @@ public final class MorningTest {
             check.due("all sixteen of book " + book, hall.morning(), 16);
             check.due("the named one is passed", hall.why(1, 15, 0), 1);
             hall.morning();
-            checkList(check, hall, book, 0, 1, 2, 3, 4, 5, 6, 7, 8, 9, 10, 11, 12, 13, 14, 15);
+            check.list(hall, book, 0, 1, 2, 3, 4, 5, 6, 7, 8, 9, 10, 11, 12, 13, 14, 15);
         }
     }
 
@@ -373,13 +373,5 @@ public final class MorningTest {
         int call = hall.call(skill, 1, 1, -1, 0);
         hall.morning();
         return hall.why(call, 0, 0);
-    }
-
-    private static void checkList(Check check, HiringHall hall, int book, int... due) {
-        String day = "day " + hall.count(0) + ": ";
-        for (int k = 0; k < due.length; k++) {
-            check.due(day + "list(" + book + ", " + k + ")", hall.list(book, k), due[k]);
-        }
-        check.due(day + "list(" + book + ", " + due.length + ")", hall.list(book, due.length), -1);
     }
 }

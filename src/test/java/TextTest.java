@@ -58,84 +58,84 @@ public final class TextTest {
     }
 
     private static void soundTexts(Check check) {
-        sound(check, "", 0);
-        sound(check, " \n \n", 0);
-        sound(check, "short 0;", 1);
-        sound(check, "short999;", 1);
-        sound(check, "\nshort\n1\n;\nrefuse 2 ; ", 2);
-        sound(check, "short 000000000000000000000999;", 1);
-        sound(check, "permit 1;name 1;", 2);
-        sound(check, "permit 0;name 00;", 2);
-        sound(check, "fund 0 1;fund 1 1;fund 02 999;", 3);
-        sound(check, "short 1;refuse 2;answer 3;permit 1;name 0;fund 0 5;fund 1 6;fund 2 7;", 8);
+        check.sound("", 0);
+        check.sound(" \n \n", 0);
+        check.sound("short 0;", 1);
+        check.sound("short999;", 1);
+        check.sound("\nshort\n1\n;\nrefuse 2 ; ", 2);
+        check.sound("short 000000000000000000000999;", 1);
+        check.sound("permit 1;name 1;", 2);
+        check.sound("permit 0;name 00;", 2);
+        check.sound("fund 0 1;fund 1 1;fund 02 999;", 3);
+        check.sound("short 1;refuse 2;answer 3;permit 1;name 0;fund 0 5;fund 1 6;fund 2 7;", 8);
     }
 
     private static void misplaced(Check check) {
-        faulty(check, "shor 1;", 1, 0);
-        faulty(check, "shorts 1;", 1, 0);
-        faulty(check, "Short 1;", 1, 0);
-        faulty(check, "shortz 1;", 1, 0);
-        faulty(check, "ashort 1;", 1, 0);
-        faulty(check, "short{1;", 1, 5);
-        faulty(check, "short`1;", 1, 5);
-        faulty(check, "short 1:", 1, 7);
-        faulty(check, "short 1/;", 1, 7);
-        faulty(check, ";", 1, 0);
-        faulty(check, "7;", 1, 0);
-        faulty(check, "1000;", 1, 0);
-        faulty(check, "short ;", 1, 6);
-        faulty(check, "short short;", 1, 6);
-        faulty(check, "short -1;", 1, 6);
-        faulty(check, "short\t1;", 1, 5);
-        faulty(check, "short 1\r;", 1, 7);
-        faulty(check, "short 1;;", 1, 8);
-        faulty(check, "short 1 1;", 1, 8);
-        faulty(check, "short 1 refuse 1;", 1, 8);
-        faulty(check, "short 1; bogus 1000;", 1, 9);
-        faulty(check, "short", 1, 5);
-        faulty(check, "short  \n", 1, 8);
-        faulty(check, "short 1", 1, 7);
-        faulty(check, "short 1  ", 1, 9);
-        faulty(check, "fund", 1, 4);
-        faulty(check, "fund 1", 1, 6);
-        faulty(check, "fund 1;", 1, 6);
-        faulty(check, "fund 1 2", 1, 8);
-        faulty(check, "fund 1 fund", 1, 7);
-        faulty(check, "fund;", 1, 4);
-        faulty(check, "\u0000", 1, 0);
-        faulty(check, "short 1;\u00e9", 1, 8);
+        check.faulty("shor 1;", 1, 0);
+        check.faulty("shorts 1;", 1, 0);
+        check.faulty("Short 1;", 1, 0);
+        check.faulty("shortz 1;", 1, 0);
+        check.faulty("ashort 1;", 1, 0);
+        check.faulty("short{1;", 1, 5);
+        check.faulty("short`1;", 1, 5);
+        check.faulty("short 1:", 1, 7);
+        check.faulty("short 1/;", 1, 7);
+        check.faulty(";", 1, 0);
+        check.faulty("7;", 1, 0);
+        check.faulty("1000;", 1, 0);
+        check.faulty("short ;", 1, 6);
+        check.faulty("short short;", 1, 6);
+        check.faulty("short -1;", 1, 6);
+        check.faulty("short\t1;", 1, 5);
+        check.faulty("short 1\r;", 1, 7);
+        check.faulty("short 1;;", 1, 8);
+        check.faulty("short 1 1;", 1, 8);
+        check.faulty("short 1 refuse 1;", 1, 8);
+        check.faulty("short 1; bogus 1000;", 1, 9);
+        check.faulty("short", 1, 5);
+        check.faulty("short  \n", 1, 8);
+        check.faulty("short 1", 1, 7);
+        check.faulty("short 1  ", 1, 9);
+        check.faulty("fund", 1, 4);
+        check.faulty("fund 1", 1, 6);
+        check.faulty("fund 1;", 1, 6);
+        check.faulty("fund 1 2", 1, 8);
+        check.faulty("fund 1 fund", 1, 7);
+        check.faulty("fund;", 1, 4);
+        check.faulty("\u0000", 1, 0);
+        check.faulty("short 1;\u00e9", 1, 8);
     }
 
     private static void tooHigh(Check check) {
-        faulty(check, "short 1000;", 2, 6);
-        faulty(check, "short 1000", 2, 6);
-        faulty(check, "short 9990;", 2, 6);
-        faulty(check, "short 4294967296;", 2, 6);
-        faulty(check, "short 42949672960000000000000000;", 2, 6);
-        faulty(check, "fund 3 1;", 2, 5);
-        faulty(check, "fund 3", 2, 5);
-        faulty(check, "fund 1000 1;", 2, 5);
-        faulty(check, "fund 2 1000;", 2, 7);
-        faulty(check, "permit 2;", 2, 7);
-        faulty(check, "name 2;", 2, 5);
-        faulty(check, "name 1000;", 2, 5);
-        faulty(check, "fund 12;", 2, 5);
+        check.faulty("short 1000;", 2, 6);
+        check.faulty("short 1000", 2, 6);
+        check.faulty("short 9990;", 2, 6);
+        check.faulty("short 4294967296;", 2, 6);
+        check.faulty("short 42949672960000000000000000;", 2, 6);
+        check.faulty("fund 3 1;", 2, 5);
+        check.faulty("fund 3", 2, 5);
+        check.faulty("fund 1000 1;", 2, 5);
+        check.faulty("fund 2 1000;", 2, 7);
+        check.faulty("permit 2;", 2, 7);
+        check.faulty("name 2;", 2, 5);
+        check.faulty("name 1000;", 2, 5);
+        check.faulty("fund 12;", 2, 5);
     }
 
     private static void twice(Check check) {
-        faulty(check, "short 1;short 1;", 3, 8);
-        faulty(check, "short 1; short 1", 3, 9);
-        faulty(check, "short 1; short 1?", 3, 9);
-        faulty(check, "short 1; short 1000;", 2, 15);
-        faulty(check, "short 1; short ;", 1, 15);
-        faulty(check, "short 1; short", 1, 14);
-        faulty(check, "name 1; name 2;", 2, 13);
-        faulty(check, "fund 1 1; fund 1 2;", 3, 10);
-        faulty(check, "fund 1 1; fund 1 2", 3, 10);
-        faulty(check, "fund 1 1; fund 1;", 1, 16);
-        faulty(check, "fund 1 1; fund 1 1000;", 2, 17);
-        faulty(check, "fund 1 1; fund 01 2;", 3, 10);
-        faulty(check, "short 1; short 2; refuse 1000;", 3, 9);
+        check.faulty("short 1;short 1;", 3, 8);
+        check.faulty("short 1; short 1", 3, 9);
+        check.faulty("short 1; short 1?", 3, 9);
+        check.faulty("short 1; short 1000;", 2, 15);
+        check.faulty("short 1; short ;", 1, 15);
+        check.faulty("short 1; short", 1, 14);
+        check.faulty("name 1; name 2;", 2, 13);
+        check.faulty("fund 1 1; fund 1 2;", 3, 10);
+        check.faulty("fund 1 1; fund 1 2", 3, 10);
+        check.faulty("fund 1 1; fund 1;", 1, 16);
+        check.faulty("fund 1 1; fund 1 1000;", 2, 17);
+        check.faulty("fund 1 1; fund 01 2;", 3, 10);
+        check.faulty("short 1; short 2; refuse 1000;", 3, 9);
     }
 
     private static void cutByLength(Check check) {
@@ -161,20 +161,5 @@ public final class TextTest {
         Check.vote(hall, "short 1;", 0);
         check.due("fault(0) behind a sound vote", hall.fault(0), 0);
         check.due("fault(1) behind a sound vote", hall.fault(1), -1);
-    }
-
-    private static void sound(Check check, String text, int lines) {
-        HiringHall hall = new HiringHall();
-        check.due("vote of '" + text + "'", Check.vote(hall, text, 0), 0);
-        check.due("fault of '" + text + "'", hall.fault(0), 0);
-        check.due("lines of '" + text + "'", hall.count(6), lines);
-    }
-
-    private static void faulty(Check check, String text, int fault, int place) {
-        HiringHall hall = new HiringHall();
-        check.due("vote of '" + text + "'", Check.vote(hall, text, 0), -1);
-        check.due("fault of '" + text + "'", hall.fault(0), fault);
-        check.due("place in '" + text + "'", hall.fault(1), place);
-        check.due("lines of '" + text + "'", hall.count(6), 0);
     }
 }

@@ -1,0 +1,23 @@
+/**
+ * One test for each sentence of the document that names a boundary case. A test's name begins with the
+ * section, its words() line quotes the sentence; words of the sections that no test quotes fail the run.
+ */
+public final class EdgeTest {
+    public static void main(String[] args) {
+        Check check = new Check();
+        Terms1Edges.run(check);
+        FaultEdges.run(check);
+        Terms2Edges.run(check);
+        Terms3Edges.run(check);
+        Terms4Edges.run(check);
+        RulePromiseEdges.run(check);
+        TellingPromiseEdges.run(check);
+        MorningPromiseEdges.run(check);
+        BankPromiseEdges.run(check);
+        for (String words : Document.unquoted()) {
+            check.yes("quoted is " + words, false);
+        }
+        check.due("sections of the document", Document.sections(), 24);
+        check.end();
+    }
+}
