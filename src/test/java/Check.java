@@ -15,6 +15,15 @@ final class Check {
         }
     }
 
+    /** Words of the document that no test has quoted are wrong too. */
+    void allIsQuoted() {
+        about = "";
+        for (String words : Document.unquoted()) {
+            wrong++;
+            System.out.println("no test quotes " + words);
+        }
+    }
+
     void due(String call, long got, long want) {
         if (got != want) {
             wrong++;

@@ -14,9 +14,7 @@ public final class EdgeTest {
         TellingPromiseEdges.run(check);
         MorningPromiseEdges.run(check);
         BankPromiseEdges.run(check);
-        for (String words : Document.unquoted()) {
-            check.yes("quoted is " + words, false);
-        }
+        check.allIsQuoted();
         check.due("sections of the document", Document.sections(), 24);
         check.end();
     }
