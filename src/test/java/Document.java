@@ -8,19 +8,23 @@ import java.util.Map;
 import java.util.regex.Matcher;
 import java.util.regex.Pattern;
 
-/** ../shared/DOC.md by its sections ("Terms 1" .. "Promise 20"), and which of its words tests have quoted. */
+/** ../shared/DOC.md by its sections ("What it is", "Terms 1" .. "Promise 20"), and which of its words tests quote. */
 final class Document {
-    private static final Pattern HEAD = Pattern.compile("(?m)^(?:==== (\\d+)\\.|## (Promise \\d+):.*|## .*)");
+    private static final Pattern HEAD = Pattern.compile("(?m)^(?:==== (\\d+)\\.|## (What it is|Promise \\d+).*|## .*)");
+    private static final Pattern METHOD = Pattern.compile("(?m)^ +public (\\w+ \\w+\\([^)]*\\));");
     private static final Map<String, StringBuilder> LEFT = new LinkedHashMap<>();
-    private static final Map<String, String> TEXTS = read(Path.of("..", "shared", "DOC.md"));
+    private static final String WHOLE = read(Path.of("..", "shared", "DOC.md"));
+    private static final Map<String, String> TEXTS = split(WHOLE);
 
-    private static Map<String, String> read(Path path) {
-        String whole;
+    private static String read(Path path) {
         try {
-            whole = Files.readString(path);
+            return Files.readString(path);
         } catch (IOException e) {
             throw new IllegalStateException("run from the project's folder, beside ../shared", e);
         }
+    }
+
+    private static Map<String, String> split(String whole) {
         Map<String, String> texts = new LinkedHashMap<>();
         Matcher head = HEAD.matcher(whole);
         String section = null;
@@ -57,6 +61,16 @@ final class Document {
             LEFT.get(section).setCharAt(i, '|');
         }
         return true;
+    }
+
+    /** The methods of the public face, without the names of their parameters. */
+    static List<String> face() {
+        List<String> methods = new ArrayList<>();
+        Matcher method = METHOD.matcher(WHOLE);
+        while (method.find()) {
+            methods.add(method.group(1).replaceAll("int \\w+([,)])", "int$1"));
+        }
+        return methods;
     }
 
     static int sections() {

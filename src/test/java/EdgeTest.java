@@ -5,6 +5,7 @@
 public final class EdgeTest {
     public static void main(String[] args) {
         Check check = new Check();
+        WholeEdges.run(check);
         Terms1Edges.run(check);
         FaultEdges.run(check);
         Terms2Edges.run(check);
@@ -15,7 +16,7 @@ public final class EdgeTest {
         MorningPromiseEdges.run(check);
         BankPromiseEdges.run(check);
         check.allIsQuoted();
-        check.due("sections of the document", Document.sections(), 24);
+        check.due("sections of the document", Document.sections(), 25);
         check.end();
     }
 }

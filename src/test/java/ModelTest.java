@@ -5,7 +5,8 @@ import java.util.Random;
 /** Long runs of drawn calls (the same ones each time), HiringHall against PlainHall. */
 public final class ModelTest {
     private static final int RUNS = 400;
-    private static final int CALLS = 512;
+    // An object has 512 calls; a step makes at most 12.
+    private static final int CALLS = 512 - 12;
     private static final int FACE = 19;
 
     private static final int[][] MIXES = {
@@ -28,6 +29,7 @@ public final class ModelTest {
     private final HiringHall hall = new HiringHall();
     private final PlainHall plain = new PlainHall();
     private final StringBuilder log = new StringBuilder();
+    private int made;
     private boolean isWrong;
 
     private ModelTest(int seed) {
@@ -46,7 +48,7 @@ public final class ModelTest {
     private boolean isWrong() {
         int[] mix = MIXES[random.nextInt(MIXES.length)];
         int all = Arrays.stream(mix).sum();
-        for (int i = 0; i < CALLS && !isWrong; i++) {
+        while (made < CALLS && !isWrong) {
             int left = random.nextInt(all);
             int which = 0;
             while (left >= mix[which]) {
@@ -184,6 +186,7 @@ public final class ModelTest {
     }
 
     private void same(String call, int got, int want) {
+        made++;
         log.append(call).append(" answered ").append(got);
         if (got != want) {
             isWrong = true;
